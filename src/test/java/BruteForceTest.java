@@ -24,21 +24,11 @@ public final class BruteForceTest {
         Due.end();
     }
 
+    // Small enough shapes, as all sequences of inputs are tried.
     private static InductChecker circuit(Random random) {
         int latches = 1 + random.nextInt(3);
         int inputs = latches == 3 ? random.nextInt(2) : random.nextInt(4);
-        InductChecker x = new InductChecker(inputs, latches);
-        int gates = random.nextInt(17);
-        for (int gate = 0; gate < gates; gate++) {
-            int literals = 2 * (1 + inputs + latches + gate);
-            x.addAnd(random.nextInt(literals), random.nextInt(literals));
-        }
-        int literals = 2 * (1 + inputs + latches + gates);
-        for (int latch = 0; latch < latches; latch++) {
-            x.setLatch(latch, 2 + random.nextInt(literals - 2), random.nextInt(2));
-        }
-        x.setBad(random.nextInt(literals));
-        return x;
+        return Circuits.random(random, inputs, latches);
     }
 
     private static int[] leastCounterexample(InductChecker x) {

@@ -1,123 +1,132 @@
-import java.util.List;
-
 /** Promise 10. */
 public final class EvalLitTest {
+    private static final int[] WIDE = {-1, -2, -6, 8, 16, 21, 255, 256, 1 << 16, 1 << 30, Integer.MIN_VALUE,
+        Integer.MIN_VALUE + 5, Integer.MAX_VALUE};
+
     public static void main(String[] args) {
-        constantsInputsAndLatches();
-        gates();
-        deepGates();
-        higherBitsAreIgnored();
-        wrongLiterals();
-        changesNothing();
+        Due.sentence("Promise 10: answers the value, 0 or 1, of lit", EvalLitTest::values);
+        Due.sentence("Promise 10: Only the low L bits of state matter", EvalLitTest::lowStateBits);
+        Due.sentence("Promise 10: Only the low I bits of inputs matter", EvalLitTest::lowInputBits);
+        Due.sentence("Promise 10: higher bits, including the sign bit of a negative int, are ignored",
+            EvalLitTest::signBit);
+        Due.sentence("Promise 10: If lit is not VALID the answer is REFUSED", EvalLitTest::notValid);
+        Due.sentence("Promise 10: Literal 0 always gives 0 and literal 1 always gives 1", EvalLitTest::falseAndTrue);
+        Due.sentence("Promise 10: It changes nothing: not the circuit, not the result, not the trace",
+            EvalLitTest::changesNothing);
         Due.end();
     }
 
-    private static void constantsInputsAndLatches() {
-        for (int inputs = 0; inputs <= 3; inputs++) {
-            for (int latches = 1; latches <= 4; latches++) {
-                InductChecker x = new InductChecker(inputs, latches);
-                for (int s = 0; s < 1 << latches; s++) {
-                    for (int i = 0; i < 1 << inputs; i++) {
-                        Due.is("evalLit(0, " + s + ", " + i + ")", x.evalLit(0, s, i), 0);
-                        Due.is("evalLit(1, " + s + ", " + i + ")", x.evalLit(1, s, i), 1);
-                        variables(x, 1, inputs, i, s, i);
-                        variables(x, 1 + inputs, latches, s, s, i);
+    private static void values() {
+        Shapes.each((inputs, latches) -> {
+            InductChecker x = Circuits.follower(inputs, latches, 16);
+            Model model = new Model(inputs, latches);
+            for (int gate = 0; gate < 16; gate++) {
+                model.addAnd(model.literals() - 1, Circuits.rightOf(inputs, latches, gate));
+            }
+            for (int lit = 0; lit < model.literals(); lit++) {
+                for (int bits = 0; bits < 1 << inputs + latches; bits++) {
+                    int state = bits >> inputs;
+                    int vector = bits & (1 << inputs) - 1;
+                    Due.is("evalLit(" + lit + ", " + state + ", " + vector + ")",
+                        x.evalLit(lit, state, vector), model.evalLit(lit, state, vector));
+                }
+            }
+        });
+    }
+
+    // The gates put together neighbours, where a bit that came too high or too low would be seen.
+    private static InductChecker neighbours(int inputs, int latches) {
+        InductChecker x = new InductChecker(inputs, latches);
+        for (int variable = 0; variable < inputs + latches; variable++) {
+            x.addAnd(2 * variable + 1, 2 * variable + 2);
+        }
+        return x;
+    }
+
+    private static void lowStateBits() {
+        Shapes.each((inputs, latches) -> {
+            InductChecker x = neighbours(inputs, latches);
+            for (int lit = 0; lit < Shapes.literals(inputs, latches, inputs + latches); lit++) {
+                for (int bits = 0; bits < 1 << inputs + latches; bits++) {
+                    int state = bits >> inputs;
+                    int due = x.evalLit(lit, state, bits & (1 << inputs) - 1);
+                    for (int bit = latches; bit < 32; bit++) {
+                        Due.is("evalLit(" + lit + ", " + (state | 1 << bit) + ", " + bits + ")",
+                            x.evalLit(lit, state | 1 << bit, bits & (1 << inputs) - 1), due);
                     }
                 }
             }
-        }
+        });
     }
 
-    private static void variables(InductChecker x, int first, int count, int bits, int s, int i) {
-        for (int j = 0; j < count; j++) {
-            int lit = 2 * (first + j);
-            int bit = bits >> j & 1;
-            Due.is("evalLit(" + lit + ", " + s + ", " + i + ")", x.evalLit(lit, s, i), bit);
-            Due.is("evalLit(" + (lit + 1) + ", " + s + ", " + i + ")", x.evalLit(lit + 1, s, i), 1 - bit);
-        }
-    }
-
-    private static void gates() {
-        InductChecker x = new InductChecker(1, 1);
-        int[] lits = {0, 1, 2, 3, 4, 5};
-        for (int left : lits) {
-            InductChecker y = new InductChecker(1, 1);
-            for (int right : lits) {
-                int gate = y.addAnd(left, right);
-                for (int s = 0; s < 2; s++) {
-                    for (int i = 0; i < 2; i++) {
-                        int due = x.evalLit(left, s, i) == 1 && x.evalLit(right, s, i) == 1 ? 1 : 0;
-                        String of = "(" + left + " and " + right + ") under " + s + ", " + i;
-                        Due.is(of, y.evalLit(gate, s, i), due);
-                        Due.is("not " + of, y.evalLit(gate + 1, s, i), 1 - due);
+    private static void lowInputBits() {
+        Shapes.each((inputs, latches) -> {
+            InductChecker x = neighbours(inputs, latches);
+            for (int lit = 0; lit < Shapes.literals(inputs, latches, inputs + latches); lit++) {
+                for (int bits = 0; bits < 1 << inputs + latches; bits++) {
+                    int vector = bits & (1 << inputs) - 1;
+                    int due = x.evalLit(lit, bits >> inputs, vector);
+                    for (int bit = inputs; bit < 32; bit++) {
+                        Due.is("evalLit(" + lit + ", " + (bits >> inputs) + ", " + (vector | 1 << bit) + ")",
+                            x.evalLit(lit, bits >> inputs, vector | 1 << bit), due);
                     }
                 }
             }
-        }
+        });
     }
 
-    // Each gate negates the one before: the last of the sixteen still follows the latch.
-    private static void deepGates() {
-        InductChecker x = new InductChecker(3, 4);
-        int lit = 14;
-        for (int gate = 0; gate < 16; gate++) {
-            lit = x.addAnd(lit ^ 1, 1);
-            int odd = gate & 1;
-            Due.is("gate " + gate + " under 8", x.evalLit(lit, 8, 0), odd);
-            Due.is("gate " + gate + " under 0", x.evalLit(lit, 0, 0), 1 - odd);
-        }
-        Due.is("evalLit(46, 8, 7)", x.evalLit(46, 8, 7), 1);
-        Due.is("evalLit(47, 8, 7)", x.evalLit(47, 8, 7), 0);
-        Due.is("evalLit(48, 8, 7)", x.evalLit(48, 8, 7), -1);
-    }
-
-    private static void higherBitsAreIgnored() {
-        for (int inputs = 0; inputs <= 3; inputs++) {
-            for (int latches = 1; latches <= 4; latches++) {
-                InductChecker x = new InductChecker(inputs, latches);
-                x.addAnd(3, 2 * (inputs + latches));
-                x.addAnd(2 * (inputs + latches) + 1, 2);
-                int stateMask = (1 << latches) - 1;
-                int inputMask = (1 << inputs) - 1;
-                int literals = 2 * (1 + inputs + latches + 2);
-                int[] wide = {-1, -2, -6, 16, 8, 21, 1 << 30, Integer.MIN_VALUE, Integer.MIN_VALUE + 5, Integer.MAX_VALUE};
-                for (int value : wide) {
-                    for (int lit = 0; lit < literals; lit++) {
-                        int due = x.evalLit(lit, value & stateMask, value & inputMask);
-                        Due.is("evalLit(" + lit + ", " + value + ", " + value + ")", x.evalLit(lit, value, value), due);
-                        int apart = x.evalLit(lit, value & stateMask, 0);
-                        Due.is("evalLit(" + lit + ", " + value + ", 0)", x.evalLit(lit, value, 0), apart);
+    private static void signBit() {
+        Shapes.each((inputs, latches) -> {
+            InductChecker x = neighbours(inputs, latches);
+            for (int lit = 0; lit < Shapes.literals(inputs, latches, inputs + latches); lit++) {
+                for (int state : WIDE) {
+                    for (int vector : WIDE) {
+                        int due = x.evalLit(lit, state & (1 << latches) - 1, vector & (1 << inputs) - 1);
+                        Due.is("evalLit(" + lit + ", " + state + ", " + vector + ")",
+                            x.evalLit(lit, state, vector), due);
                     }
                 }
             }
-        }
-        InductChecker x = new InductChecker(1, 1);
-        Due.is("evalLit(4, 0, -1)", x.evalLit(4, 0, -1), 0);
-        Due.is("evalLit(2, -1, 0)", x.evalLit(2, -1, 0), 0);
-        Due.is("evalLit(4, 2, 2)", x.evalLit(4, 2, 2), 0);
-        Due.is("evalLit(2, 2, 2)", x.evalLit(2, 2, 2), 0);
-        Due.is("evalLit(4, -1, 0)", x.evalLit(4, -1, 0), 1);
-        Due.is("evalLit(2, 0, -1)", x.evalLit(2, 0, -1), 1);
+            int lastLatch = Circuits.latch(x, latches - 1);
+            Due.is("the last latch under -1", x.evalLit(lastLatch, -1, 0), 1);
+            Due.is("the last latch under the sign bit", x.evalLit(lastLatch, Integer.MIN_VALUE, -1), 0);
+            if (inputs > 0) {
+                Due.is("the last input under -1", x.evalLit(2 * inputs, 0, -1), 1);
+                Due.is("the last input under the sign bit", x.evalLit(2 * inputs, -1, Integer.MIN_VALUE), 0);
+            }
+        });
     }
 
-    private static void wrongLiterals() {
-        InductChecker x = new InductChecker(1, 2);
-        for (int lit : new int[] {-1, -2, 8, 9, 64, 65, Integer.MIN_VALUE, Integer.MAX_VALUE}) {
-            Due.is("evalLit(" + lit + ", 3, 1)", x.evalLit(lit, 3, 1), -1);
-        }
-        x.addAnd(2, 4);
-        Due.is("evalLit(8, 1, 1)", x.evalLit(8, 1, 1), 1);
-        Due.is("evalLit(9, 1, 1)", x.evalLit(9, 1, 1), 0);
-        Due.is("evalLit(10, 1, 1)", x.evalLit(10, 1, 1), -1);
+    private static void notValid() {
+        Shapes.each((inputs, latches) -> {
+            for (int gates = 0; gates <= 16; gates++) {
+                InductChecker x = Circuits.follower(inputs, latches, gates);
+                for (int lit : Outside.ofLiterals(inputs, latches, gates)) {
+                    Due.is("evalLit(" + lit + ", 0, 0)", x.evalLit(lit, 0, 0), -1);
+                    Due.is("evalLit(" + lit + ", -1, -1)", x.evalLit(lit, -1, -1), -1);
+                }
+            }
+        });
+    }
+
+    private static void falseAndTrue() {
+        Shapes.each((inputs, latches) -> {
+            for (InductChecker x : Circuits.inEveryResult(inputs, latches, 16)) {
+                for (int state : WIDE) {
+                    for (int vector : WIDE) {
+                        Due.is("evalLit(0, " + state + ", " + vector + ")", x.evalLit(0, state, vector), 0);
+                        Due.is("evalLit(1, " + state + ", " + vector + ")", x.evalLit(1, state, vector), 1);
+                    }
+                }
+            }
+        });
     }
 
     private static void changesNothing() {
-        InductChecker x = Circuits.counterTo15(1);
-        x.check();
-        List<Integer> before = Snapshot.whole(x);
-        for (int lit = -2; lit < 60; lit++) {
-            x.evalLit(lit, lit * 7, lit * 5);
+        for (int lit : new int[] {Integer.MIN_VALUE, -1, 0, 1, 3, 8, 48, Integer.MAX_VALUE}) {
+            for (int bits : new int[] {0, 5, -1}) {
+                Reading.changesNothing(x -> x.evalLit(lit, bits, bits));
+            }
         }
-        Due.is("evalLit changes nothing", Snapshot.whole(x).equals(before), true);
     }
 }
