@@ -80,6 +80,25 @@ public final class CheckTest {
             x.setBad(x.addAnd(bad, bad ^ 1));
             Due.is("check() after addAnd", x.check(), 1);
         });
+        zerosReplaceTheOldTrace();
+    }
+
+    // The counter goes over from its last state to 0, where the longest trace had another state and vector.
+    private static void zerosReplaceTheOldTrace() {
+        Shapes.each((inputs, latches) -> {
+            InductChecker x = Circuits.counter(inputs, latches);
+            x.check();
+            for (int j = 0; j < latches; j++) {
+                x.setLatch(j, x.getLatchNext(j), 1);
+            }
+            x.setBad(Circuits.latch(x, 0) + 1);
+            Due.is("check()", x.check(), 2);
+            Due.is("getTraceLength()", x.getTraceLength(), 1);
+            Due.is("getTraceState(0)", x.getTraceState(0), (1 << latches) - 1);
+            Due.is("getTraceState(1)", x.getTraceState(1), 0);
+            Due.is("getTraceInputs(0)", x.getTraceInputs(0), (1 << inputs) - 1);
+            Due.is("getTraceInputs(1)", x.getTraceInputs(1), 0);
+        });
     }
 
     private static void answer() {

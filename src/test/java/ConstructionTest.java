@@ -179,9 +179,10 @@ public final class ConstructionTest {
             InductChecker used = Circuits.counter(3 - inputs, 5 - latches);
             used.check();
             Snapshot after = Snapshot.whole(used);
-            InductChecker second = new InductChecker(inputs, latches);
             Due.is("the object made before is FRESH", Snapshot.whole(first).isSameAs(fresh), true);
+            InductChecker second = new InductChecker(inputs, latches);
             Due.is("the object made after is FRESH", Snapshot.whole(second).isSameAs(fresh), true);
+            Due.is("the used object is as it was", Snapshot.whole(used).isSameAs(after), true);
             InductChecker other = Circuits.follower(inputs, latches, 16);
             other.check();
             Due.is("the used object is as it was", Snapshot.whole(used).isSameAs(after), true);
